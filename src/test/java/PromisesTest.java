@@ -169,6 +169,13 @@ public final class PromisesTest {
             due("rank(" + i + ", 0)", x.rank(i, 0), order[i]);
             due("rank(" + order[i] + ", 1)", x.rank(order[i], 1), i);
         }
+        x.deep(4);
+        int[] sixteen = {15, 14, 13, 11, 7, 12, 10, 9, 6, 5, 3, 8, 4, 2, 1, 0};
+        for (int i = 0; i < 16; i++) {
+            due("rank(" + i + ", 0) of 16", x.rank(i, 0), sixteen[i]);
+            due("rank(" + sixteen[i] + ", 1) of 16", x.rank(sixteen[i], 1), i);
+        }
+        x.deep(3);
         for (int top = 0; top <= 7; top += 7) {
             x.loss(top, 7);
             for (int i = 0; i < 8; i++) {
@@ -422,6 +429,25 @@ public final class PromisesTest {
         due("read(0) of nothing", x.read(0), 0);
         due("read(1) of nothing", x.read(1), 0);
         due("read(2) of nothing", x.read(2), 0);
+        x.put(0, 1);
+        x.put(3, -1);
+        // Bit 2 sees -1, bit 3 behind it -2: CODED of 12 has 1 at PLACES 1 and 3, and nothing came at 1.
+        due("read(0) of weak ones", x.read(0), 12);
+        due("read(2), CODED has 1 where nothing came", x.read(2), 0);
+        x.deep(4);
+        x.hear(32768, 99);
+        due("read(0) of 16", x.read(0), 32768);
+        due("read(1) of 16", x.read(1), 0);
+        x.freeze(65535);
+        due("read(0) of 16, all FROZEN", x.read(0), 0);
+        due("read(1) of 16, all FROZEN", x.read(1), 16 * 99);
+        due("read(2) of 16, all FROZEN", x.read(2), 16);
+        x.freeze(0);
+        x.hear(1, 5);
+        due("read(0) of the first bit", x.read(0), 1);
+        x.freeze(1);
+        due("read(1), the first bit FROZEN", x.read(1), 5);
+        due("read(2), the first bit FROZEN", x.read(2), 1);
         due("read(4)", x.read(4), -2);
         due("read(-1)", x.read(-1), -2);
         for (int far : FAR) {
@@ -482,6 +508,14 @@ public final class PromisesTest {
         for (int far : FAR) {
             due("kept far", x.kept(far, 0), -6);
             due("kept far", x.kept(0, far), -2);
+        }
+        // MEASURES 3 and 5: bit 0 sees 3; then 8 behind 0, 2 behind 1.
+        x.freeze(0);
+        x.put(1, 5);
+        int[][] above = {{0, 0}, {1, 3}, {3, 5}, {2, 8}};
+        for (int i = 0; i < 4; i++) {
+            due("kept, SEEN above 0", x.kept(i, 0), above[i][0]);
+            due("kept, SEEN above 0", x.kept(i, 1), above[i][1]);
         }
         FrozenBits y = new FrozenBits();
         y.most(8);
