@@ -4,6 +4,7 @@ import java.util.Arrays;
 import java.util.Comparator;
 import java.util.List;
 import java.util.Random;
+import java.util.stream.IntStream;
 
 /** All calls against a second writing of the document, that keeps to its words and takes no short way. */
 public final class ModelTest {
@@ -501,7 +502,8 @@ public final class ModelTest {
         "deep", "loss", "split", "rank", "freeze", "best", "coded", "word", "light", "put", "hear", "spoil",
         "measure", "read", "most", "kept", "chosen", "check", "open", "fragile", "image", "restore", "count"};
 
-    private static void due(String where, int call, int a, int b, long got, long want) {
+    /** One at a time, for the sets of sixteen PLACES are asked side by side. */
+    private static synchronized void due(String where, int call, int a, int b, long got, long want) {
         if (got == want) {
             right++;
             return;
@@ -653,22 +655,46 @@ public final class ModelTest {
         }
     }
 
-    private static void someFrozenSetsOfSixteen() {
-        Pair pair = new Pair(4);
-        Random random = new Random(16);
-        for (int turn = 0; turn < 300; turn++) {
-            // More frozen ones, turn by turn, for the greater least weights are rare.
-            int frozen = random.nextInt(65536);
-            for (int more = 0; more < turn % 4; more++) {
-                frozen |= random.nextInt(65536);
+    /** As lightAndFragile, but by one look at all rows and sets: the model's five looks are too many for them all. */
+    private static void lightAndFragileOfSixteen(int frozen) {
+        int[] words = new int[17];
+        int[] sets = new int[17];
+        int[] leastSets = new int[17];
+        for (int set = (1 << 16) - 1; set >= 0; set--) {
+            if (set != 0 && (set & frozen) == 0) {
+                words[Integer.bitCount(CODED[4][set])]++;
             }
-            lightAndFragile(pair, frozen);
+            if ((NOT_TOLD[4][set] & ~frozen) != 0) {
+                sets[Integer.bitCount(set)]++;
+                leastSets[Integer.bitCount(set)] = set;
+            }
         }
-        int light = (1 << 0) | (1 << 1) | (1 << 2) | (1 << 4) | (1 << 8);
-        int[] edges = {0, 65535, 32767, 65534, light, light | 1 << 3 | 1 << 5 | 1 << 6 | 1 << 9 | 1 << 10 | 1 << 12};
-        for (int frozen : edges) {
-            lightAndFragile(pair, frozen);
+        int weight = firstAboveZero(words);
+        int fewest = firstAboveZero(sets);
+        FrozenBits x = new FrozenBits();
+        x.deep(4);
+        x.freeze(frozen);
+        int[] light = {weight, weight == NONE ? NONE : words[weight]};
+        int[] fragile = {fewest, fewest == NONE ? NONE : sets[fewest], fewest == NONE ? NONE : leastSets[fewest]};
+        for (int what = 0; what < light.length; what++) {
+            due("DEEP 4, FROZEN " + frozen, 8, what, 0, x.light(what), light[what]);
         }
+        for (int what = 0; what < fragile.length; what++) {
+            due("DEEP 4, FROZEN " + frozen, 19, what, 0, x.fragile(what), fragile[what]);
+        }
+    }
+
+    private static int firstAboveZero(int[] counts) {
+        for (int at = 0; at < counts.length; at++) {
+            if (counts[at] > 0) {
+                return at;
+            }
+        }
+        return NONE;
+    }
+
+    private static void allFrozenSetsOfSixteen() {
+        IntStream.range(0, 1 << 16).parallel().forEach(ModelTest::lightAndFragileOfSixteen);
     }
 
     public static void main(String[] args) {
@@ -680,7 +706,7 @@ public final class ModelTest {
         for (int deep = 1; deep <= 3; deep++) {
             allFrozenSets(deep);
         }
-        someFrozenSetsOfSixteen();
+        allFrozenSetsOfSixteen();
         for (int seed = 1; seed <= OBJECTS; seed++) {
             randomRun(seed);
         }
