@@ -421,6 +421,20 @@ public final class EdgesTest {
         due("bit 0 is told 0: b and a", x.measure(1, 1), -2);
     }
 
+    static void terms_firstHalvesAreToldByTheirOwnBits() {
+        // As all bits ahead are told rightly, all MEASURES speak alike for the last one.
+        for (int deep : DEEPS) {
+            for (int bit = 0; bit < places(deep); bit++) {
+                FrozenBits x = ofDeep(deep);
+                x.hear(1 << bit, 5);
+                due("READ of bit " + bit, x.read(0), 1 << bit);
+                int strong = 5 * places(deep);
+                due("SEEN of the last, " + bit + " being 1", x.measure(last(deep), 1),
+                    bit == last(deep) ? -strong : strong);
+            }
+        }
+    }
+
     static void terms_theGreatestAndTheLeastThatIsSeen() {
         for (int deep : DEEPS) {
             FrozenBits x = ofDeep(deep);
